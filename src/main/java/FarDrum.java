@@ -181,7 +181,7 @@ public final class FarDrum {
         }
         past.push(state);
         int was = state.deaf >> v & 1;
-        state.deaf = state.deaf & ~(1 << v) | is << v;
+        state.deaf = (state.deaf & ~(1 << v)) | (is << v);
         return was;
     }
 
@@ -366,7 +366,7 @@ public final class FarDrum {
     }
 
     public int tooMany() {
-        int wrong = (1 << toldCount) - 1 & ~toldThatWereStruck();
+        int wrong = ((1 << toldCount) - 1) & ~toldThatWereStruck();
         return Integer.bitCount(wrong) > 1 ? NONE : wrong;
     }
 
@@ -496,6 +496,7 @@ public final class FarDrum {
         first.begin(told);
         state.copy(first);
         past.size = 0;
+        // what was heard and told was of the drum of the earlier valley
         heardCount = 0;
         toldCount = 0;
         for (int i = 0; i < IMAGES; i++) {

@@ -80,6 +80,10 @@ public final class CourseTest {
         round(ending, FarDrum.NONE, FarDrum.NONE, FarDrum.NONE);
         Check.due("round(3) of what ends", ending.round(3), FarDrum.BAD);
         round(new FarDrum(), FarDrum.NONE, FarDrum.NONE, FarDrum.NONE);
+        // through all six
+        FarDrum six = Check.drum("v0 0;v0 0;v0 0;v0 0;v0 0;v0 0;e0 1 1;e1 2 2;e2 3 3;e3 4 4;e4 5 5;", 11);
+        round(six, 4, 2, 10);
+        Check.due("ends() of all six", six.ends(), FarDrum.NONE);
         // of three, by mules
         FarDrum three = Check.drum("v0 0;v1 0;v0 0;v2 0;e0 1 9;e1 2 3;s0;", 7);
         three.sends(1, 3, 10);

@@ -6,6 +6,7 @@ public final class KindsImagesTest {
         ratesOfNow();
         traces();
         images();
+        imagesOfMules();
         imagesAndUndo();
         imagesWithoutVillages();
         Check.finish();
@@ -121,6 +122,23 @@ public final class KindsImagesTest {
             Check.due("deaf of " + v, drum.village(v, 1), deaf >> v & 1);
             Check.due("struck in " + v, drum.village(v, 3), struck[v]);
         }
+    }
+
+    private static void imagesOfMules() {
+        FarDrum drum = Check.drum("v0 0;v0 0;v0 0;", 3);
+        drum.sends(0, 1, 5);
+        drum.keep(1);
+        drum.undo();
+        drum.sends(2, 0, 7);
+        drum.keep(0);
+        drum.sends(1, 2, 9);
+        Check.due("back(1)", drum.back(1), 1);
+        Check.due("its mule", drum.hears(1, 0), 5);
+        Check.due("no later mule", drum.hears(0, 2), FarDrum.NONE);
+        Check.due("back(0)", drum.back(0), 1);
+        Check.due("no earlier mule", drum.hears(1, 0), FarDrum.NONE);
+        Check.due("its mule", drum.hears(0, 2), 7);
+        Check.due("no later mule", drum.hears(2, 1), FarDrum.NONE);
     }
 
     private static void imagesAndUndo() {

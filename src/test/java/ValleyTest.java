@@ -8,7 +8,9 @@ public final class ValleyTest {
         textsThatAreRight();
         textsThatAreWrong();
         aFaultChangesNothing();
+        lettersOfAnEarlierText();
         readAnew();
+        readThrice();
         villages();
         ways();
         hearing();
@@ -178,6 +180,44 @@ public final class ValleyTest {
         Check.due("back behind a fault", drum.back(0), 1);
     }
 
+    private static void lettersOfAnEarlierText() {
+        FarDrum drum = new FarDrum();
+        Check.type(drum, "r19;v0 0;");
+        drum.clear();
+        Check.type(drum, "r1");
+        Check.due("valley() of a text behind a longer one", drum.valley(), -12);
+        Check.type(drum, ";");
+        Check.due("valley() of it, told on", drum.valley(), 1);
+        Check.due("reach", drum.count(1), 1);
+    }
+
+    private static void readThrice() {
+        FarDrum drum = Check.drum("v1 1;v2 1;v3 0;e0 1 4;e1 2 5;e0 2 6;r7;s2;", 8);
+        Check.due("valley() of nothing", drum.valley(), 0);
+        for (int what = 0; what < 6; what++) {
+            Check.due("now(" + what + ") of no villages", drum.now(what), 0);
+        }
+        Check.due("start", drum.count(2), 0);
+        Check.due("reach", drum.count(1), 20);
+        Check.type(drum, "v0 0;v0 0;v0 0;r5;s1;s");
+        Check.due("valley() of s again", drum.valley(), -31);
+        drum.clear();
+        Check.type(drum, "v0 0;v0 0;v0 0;");
+        Check.due("valley() again", drum.valley(), 3);
+        int[] counts = {3, 20, 0, 0, 0, 0};
+        for (int what = 0; what < 6; what++) {
+            Check.due("count(" + what + ") read thrice", drum.count(what), counts[what]);
+        }
+        for (int v = 0; v < 3; v++) {
+            for (int what = 0; what < 3; what++) {
+                Check.due("village read thrice", drum.village(v, what), 0);
+            }
+        }
+        Check.type(drum, "r4;v0 0;s0;");
+        Check.due("r and s told once, each time", drum.valley(), 3);
+        Check.due("strokes of one alone", drum.now(0), 1);
+    }
+
     private static void readAnew() {
         FarDrum drum = Check.drum("v1 0;v2 1;v3 0;e0 1 4;e1 2 5;r7;s1;", 7);
         drum.fog(1);
@@ -217,7 +257,7 @@ public final class ValleyTest {
     }
 
     private static void villages() {
-        FarDrum drum = Check.drum("v1 0;v2 1;v9 0;v0 0;e0 1 4;e3 0 5;r3;s1;", 8);
+        FarDrum drum = Check.drum("v1 0;v2 1;v9 0;v0 0;e0 1 1;e3 0 5;r3;s1;", 8);
         int[][] due = {{1, 0, 10, 0}, {2, 1, 1, 1}, {9, 0, 0, 0}, {0, 0, 1, 0}};
         for (int v = 0; v < 4; v++) {
             for (int what = 0; what < 4; what++) {
