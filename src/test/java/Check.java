@@ -1,4 +1,7 @@
-/** What the tests share: answers that are due, and texts told letter by letter. */
+import java.util.function.Supplier;
+import java.util.function.ToLongFunction;
+
+/** What the tests share: answers that are due, refusals that change nothing, texts told letter by letter. */
 final class Check {
     private static int wrong = 0;
 
@@ -25,6 +28,22 @@ final class Check {
         type(drum, text);
         due("valley() of " + text, drum.valley(), items);
         return drum;
+    }
+
+    /** A call on a drum so made must answer so, and leave all that can be seen as it was. */
+    static void still(String call, Supplier<FarDrum> made, ToLongFunction<FarDrum> asked, long want) {
+        FarDrum drum = made.get();
+        due(call, asked.applyAsLong(drum), want);
+        due("whether " + call + " changed nothing", Look.at(drum).equals(Look.at(made.get())) ? 1 : 0, 1);
+    }
+
+    /** A text whose fault is at a place; it stays, and so does the valley. */
+    static void fault(String text, int place) {
+        still("valley() of " + text, () -> {
+            FarDrum drum = drum("v1 0;v2 1;e0 1 4;r7;s1;", 5);
+            type(drum, text);
+            return drum;
+        }, FarDrum::valley, -10 - place);
     }
 
     static void finish() {

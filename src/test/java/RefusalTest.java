@@ -1,6 +1,5 @@
 import java.lang.reflect.Method;
 import java.lang.reflect.Modifier;
-import java.util.ArrayList;
 import java.util.Arrays;
 import java.util.List;
 
@@ -36,10 +35,10 @@ public final class RefusalTest {
     private static void tryOne(int state, Method method, int[] args) throws Exception {
         FarDrum drum = make(state);
         Object[] boxed = Arrays.stream(args).boxed().toArray();
-        List<Long> ahead = look(make(state));
+        List<Long> ahead = Look.at(make(state));
         long answer = ((Number) method.invoke(drum, boxed)).longValue();
         boolean mayChange = CHANGERS.contains(method.getName()) && !isRefusal(method, answer);
-        if (!mayChange && !look(drum).equals(ahead)) {
+        if (!mayChange && !Look.at(drum).equals(ahead)) {
             Check.due("something changed by " + method.getName() + Arrays.toString(args), 1, 0);
         }
     }
@@ -73,33 +72,5 @@ public final class RefusalTest {
 
     private static void tell(FarDrum drum, String text) {
         for (char c : text.toCharArray()) drum.type(c);
-    }
-
-    /** All that can be seen of a drum; what is used up by looking comes last. */
-    private static List<Long> look(FarDrum drum) {
-        List<Long> seen = new ArrayList<>();
-        seen.add(drum.trace());
-        for (int what = 0; what < 6; what++) {
-            seen.add((long) drum.now(what));
-            seen.add((long) drum.count(what));
-            for (int v = 0; v < 6; v++) {
-                seen.add((long) drum.village(v, what));
-                seen.add((long) drum.hears(v, what));
-                seen.add((long) drum.way(v, what));
-            }
-        }
-        seen.add((long) drum.mayBe());
-        seen.add((long) drum.tooMany());
-        for (int i = 0; i < 11; i++) {
-            seen.add((long) drum.undo());
-            for (int what = 0; what < 6; what++) seen.add((long) drum.now(what));
-            for (int v = 0; v < 3; v++) seen.add(100L * drum.village(v, 0) + drum.village(v, 1));
-        }
-        for (int image = 0; image < 2; image++) {
-            seen.add((long) drum.back(image));
-            for (int what = 0; what < 6; what++) seen.add((long) drum.now(what));
-        }
-        seen.add((long) drum.valley());
-        return seen;
     }
 }
