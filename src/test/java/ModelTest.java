@@ -6,7 +6,8 @@ import java.util.Random;
 /** Runs of calls by fixed seeds, on the program and on PlainDrum: every answer is the same. */
 public final class ModelTest {
     private static final int RUNS = 1500;
-    private static final int[] EDGES = {Integer.MIN_VALUE, -1000000, -9, -1, 61, 201, 256, 401, 10000, Integer.MAX_VALUE};
+    private static final int[] EDGES = {Integer.MIN_VALUE, -1000000, -9, -1, 9, 10, 11, 19, 20, 21, 59, 60, 61, 199, 200,
+        201, 255, 256, 399, 400, 401, 10000, Integer.MAX_VALUE};
 
     private static final class Call {
         final Method real;
@@ -108,7 +109,7 @@ public final class ModelTest {
 
     private int argument() {
         int dice = random.nextInt(40);
-        if (dice == 0) return EDGES[random.nextInt(EDGES.length)];
+        if (dice < 2) return EDGES[random.nextInt(EDGES.length)];
         if (dice < 20) return random.nextInt(3);
         if (dice < 33) return random.nextInt(7);
         if (dice < 37) return random.nextInt(22);

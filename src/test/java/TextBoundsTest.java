@@ -32,6 +32,7 @@ public final class TextBoundsTest {
         textsThatEndTooEarly();
         aFaultLeavesTheText();
         readAnewAsTold();
+        nothingIsLeftOfEarlierTexts();
         Check.finish();
     }
 
@@ -373,5 +374,30 @@ public final class TextBoundsTest {
         Check.type(drum, TWO + "e0 1 3;");
         Check.due("valley()", drum.valley(), 3);
         Check.due("as if it were new", Look.at(drum).equals(Look.at(Check.drum(TWO + "e0 1 3;", 3))) ? 1 : 0, 1);
+    }
+
+    /** THE TEXT tells all anew: what earlier texts told, or began to tell ahead of a FAULT, is gone. */
+    private static void nothingIsLeftOfEarlierTexts() {
+        String rich = "v9 1;v8 1;v7 1;v6 1;v5 1;v4 1;e0 1 9;e1 2 9;e2 3 9;e3 4 9;e4 5 9;e0 5 9;r1;s5;";
+        String[] plain = {"", "v0 0;", TWO, TWO + "e0 1 1;", SIX, "v0 0;v0 0;v0 0;s2;", "r2;"};
+        for (String text : plain) {
+            for (int faults = 0; faults < 4; faults++) {
+                FarDrum drum = Check.drum(rich, 14);
+                if ((faults & 1) == 1) readWithAFault(drum, rich);
+                Check.type(drum, rich);
+                Check.due("valley() again", drum.valley(), 14);
+                if ((faults & 2) == 2) readWithAFault(drum, rich);
+                int items = text.length() - text.replace(";", "").length();
+                Check.type(drum, text);
+                Check.due("valley() of " + text, drum.valley(), items);
+                Check.due("as if it were new", Look.at(drum).equals(Look.at(Check.drum(text, items))) ? 1 : 0, 1);
+            }
+        }
+    }
+
+    private static void readWithAFault(FarDrum drum, String text) {
+        Check.type(drum, text + "x");
+        Check.due("valley() with a fault", drum.valley(), -10 - text.length());
+        Check.due("clear()", drum.clear(), text.length() + 1);
     }
 }
